@@ -53,8 +53,11 @@ public final class ImagesTest {
         for (int what = 0; what <= 3; what++) {
             x.rota(what, 3);
         }
-        x.wall(0, 0, 0);
-        x.pass(99);
+        x.wall(5, 9, 9);
+        for (int part = 3; part <= 5; part++) {
+            x.set(2, part, 3);
+        }
+        x.pass(9);
     }
 
     private static void imageKeepsAll() {
@@ -68,9 +71,11 @@ public final class ImagesTest {
         upset(x);
         Due.due("P35 the image stays", x.undo(), 2);
         isAsLived("P35 as it was again", x);
-        Due.due("P35 a new wall has nothing of one that's gone", x.wall(1, 8, 9), 2);
-        Due.due("P35 room", x.of(2, 1), 8);
-        Due.due("P35 file", x.of(2, 4), 0);
+        Due.due("P35 a new wall has nothing of one that's gone", x.wall(1, 8, 7), 2);
+        long[] wall = {1, 8, 7, 0, 0, 0};
+        for (int part = 0; part < 6; part++) {
+            Due.due("P35 part " + part, x.of(2, part), wall[part]);
+        }
     }
 
     private static void imageKeepsNoTapeNorSheet() {

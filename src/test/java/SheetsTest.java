@@ -245,6 +245,10 @@ public final class SheetsTest {
         Due.due("P33 on at 2: six of side 0, a tapestry of 3", x.read(0, 0), 7);
         x.write(0, 1, 1);
         Due.due("P33 none is on at 1", x.read(0, 0), 0);
+        x.write(0, 0, 1);
+        x.write(0, 1, 0);
+        Due.due("P33 nor at 0, the first", x.read(0, 0), 0);
+        x.write(0, 0, 0);
         x.write(0, 1, 2);
         Due.due("P33 2 is neither 1 nor 0", x.read(0, 0), 0);
         x.sheet(0, 64, 3);

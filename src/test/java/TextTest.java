@@ -169,6 +169,9 @@ public final class TextTest {
         due("season 2 and 3", -10);
         due("Wall of 3", -1);
         due("wall oF 3", -6);
+        due("wallz of 3", -1);
+        due("zwall of 3", -1);
+        due("xall of 3", -1);
         due("wall of 3.", -10);
         due("wall of 3 ,", -11);
         due("wall of -3", -9);
@@ -189,6 +192,8 @@ public final class TextTest {
         due("wall of 10", -9);
         due("wall of 3 and 9", 1);
         due("wall of 3 and 10", -15);
+        due("wall of 0", 1);
+        due("wall of 0 and 0 side 0", 1);
         due("wall of 3 side 3", 1);
         due("wall of 3 side 4", -16);
         due("wall of 3 and 4 side 4", -22);

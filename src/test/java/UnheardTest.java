@@ -182,6 +182,14 @@ public final class UnheardTest {
             Due.due("P19 room " + bad, x.worst(bad, 1), Due.BEYOND);
         }
         Due.due("P19 most minutes", x.worst(0, 240), 2);
+        WallShifts y = watched();
+        y.pass(2);
+        Due.due("P19 one minute more is more", y.worst(0, 1), 0);
+        y.pass(12);
+        Due.due("P19 this minute alone, the change behind it", y.worst(0, 3), 0);
+        y.wall(0, 0, 0);
+        Due.due("P19 both at once are no loss", y.worst(0, 3), Due.NONE);
+        Due.due("P19 without this minute it's the next quarter", y.worst(0, 4), 1);
     }
 
     private static void cover() {
@@ -252,6 +260,16 @@ public final class UnheardTest {
         Due.due("P22 for 1, which is needed", x.side(1, 0, 60), 1);
         Due.due("P22 in the first quarter any does", x.side(1, 0, 15), 0);
         Due.due("P22 of another room", x.side(3, 7, 240), 0);
+        x.pass(2);
+        Due.due("P22 one minute", x.side(0, 0, 1), 0);
+        Due.due("P22 one minute alone decides", x.side(2, 0, 1), 0);
+        x.set(0, 3, 1);
+        x.set(3, 3, 1);
+        x.set(2, 3, 1);
+        Due.due("P22 nobody else is on", x.side(2, 0, 1), 0);
+        x.set(0, 3, 0);
+        x.set(3, 3, 0);
+        x.set(2, 3, 2);
         Due.due("P22 the side stays", x.of(3, 3), 0);
         Due.due("P22 the file stays", x.of(0, 4), 99);
         x.turn(3, 5);
