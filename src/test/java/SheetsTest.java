@@ -216,6 +216,12 @@ public final class SheetsTest {
         }
         x.sheet(0, 8, 0);
         Due.due("P32 an empty sheet", x.book(0, 0), 0);
+        bookAtTheLastMinute();
+    }
+
+    private static void bookAtTheLastMinute() {
+        WallShifts x = new WallShifts();
+        x.wall(0, 0, 0);
         Due.passTo(x, 99999);
         x.sheet(0, 8, 7);
         x.set(0, 3, 2);
